@@ -21,10 +21,11 @@ public final class DieGraphs {
     private int hoards;
 
     public DieGraphs() {
-        coins = new Coins();
-        links = new Chains(coins);
-        precedence = new Precedence(coins);
-        rules = new Rules(coins);
+        Coins known = new Coins();
+        coins = known;
+        links = new Chains(known);
+        precedence = new Precedence(known);
+        rules = new Rules(known);
         hoards = 0;
     }
 
