@@ -5,6 +5,11 @@ public final class Check {
         long answer();
     }
 
+    /** One call of the program with a number that is tried out. */
+    public interface NumberedCall {
+        long answer(int number);
+    }
+
     private static int wrong = 0;
 
     private Check() {
@@ -38,6 +43,25 @@ public final class Check {
 
     public static void noState(String what, Call call) {
         same(what, outcome(call), "IllegalStateException");
+    }
+
+    /** The first and the last number are taken; the next one on each side and the farthest ones are refused. */
+    public static void range(String what, int first, int last, String refusal, NumberedCall call) {
+        for (int number : new int[] {first, last}) {
+            String got = outcome(() -> call.answer(number));
+            same(what + " " + number + " is taken", isAnswer(got) ? "so" : got, "so");
+        }
+        for (int number : new int[] {first - 1, last + 1, Integer.MIN_VALUE, Integer.MAX_VALUE}) {
+            same(what + " " + number, outcome(() -> call.answer(number)), refusal);
+        }
+    }
+
+    public static void fraction(String what, int above, int below, String due) {
+        same(what, above + " / " + below, due);
+    }
+
+    private static boolean isAnswer(String outcome) {
+        return outcome.matches("-?[0-9]+");
     }
 
     /** The answer as text, or the simple name of what was thrown. */
