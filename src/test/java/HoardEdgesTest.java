@@ -70,6 +70,10 @@ public final class HoardEdgesTest {
                 Check.same("coin " + coin + " into " + hoard + " again", x.into(hoard, coin), false);
             }
         }
+        // fronts 0 and 15, back 16, in the first and in the last hoard
+        overlap("two hoards of 80 coins", x, 0, 7, "1 / 1");
+        x.into(7, 78);
+        overlap("one more front in the last one", x, 0, 7, "3 / 4");
     }
 
     /** IndexOutOfBoundsException. */

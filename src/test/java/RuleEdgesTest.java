@@ -7,6 +7,7 @@ public final class RuleEdgesTest {
         zeroIsNone();
         everySign();
         moreThan40Signs();
+        everySignMoreThan40();
         refusedSigns();
         ruleOfACollectedText();
         emptyText();
@@ -81,6 +82,21 @@ public final class RuleEdgesTest {
                 Check.same(more + " behind " + ahead, got, due);
                 Check.same("signs", x.count(5), room ? ahead + more : ahead);
             }
+        }
+    }
+
+    private static void everySignMoreThan40() {
+        for (int sign = 1; sign < 256; sign++) {
+            DieGraphs x = new DieGraphs();
+            Check.collect(x, "x".repeat(40));
+            for (int shift = 0; shift < 32; shift += 8) {
+                int word = sign << shift;
+                Check.noState("sign " + sign + " in a", () -> x.unit(word, 0, 0, 0));
+                Check.noState("sign " + sign + " in b", () -> x.unit(0, word, 0, 0));
+                Check.noState("sign " + sign + " in c", () -> x.unit(0, 0, word, 0));
+                Check.noState("sign " + sign + " in d", () -> x.unit(0, 0, 0, word));
+            }
+            Check.same("0 is none", x.unit(0, 0, 0, 0), 40);
         }
     }
 

@@ -241,11 +241,18 @@ public final class TermsEdgesTest {
             DieGraphs x = new DieGraphs();
             x.coin(0, 20, 1);
             x.coin(0, 21, 1);
+            x.coin(5, 22, 1);
+            x.coin(6, 22, 1);
             x.wear(0, 0, stage);
+            x.wear(2, 1, stage);
             Check.same("stage " + stage + " and one that was never told", x.order(20, 21), 0);
+            Check.same("stage " + stage + " of the back and one that was never told", x.order(5, 6), 0);
             x.wear(1, 0, 5);
             x.wear(1, 0, -1);
+            x.wear(3, 1, 5);
+            x.wear(3, 1, -1);
             Check.same("stage " + stage + " and one that was taken away", x.order(20, 21), 0);
+            Check.same("stage " + stage + " of the back and one that was taken away", x.order(5, 6), 0);
         }
     }
 
@@ -275,6 +282,14 @@ public final class TermsEdgesTest {
         }
         Check.same("the first and the last over all others", x.order(0, 15), -1);
         Check.same("the last and the first", x.order(15, 0), 1);
+        for (int middle = 0; middle < 32; middle++) {
+            DieGraphs over = new DieGraphs();
+            int before = middle / 16 * 16 + (middle + 1) % 16;
+            int after = middle / 16 * 16 + (middle + 2) % 16;
+            over.row(before, middle);
+            over.row(middle, after);
+            Check.same("over " + middle, over.order(before, after), -1);
+        }
         DieGraphs y = new DieGraphs();
         for (int front = 0; front < 16; front++) {
             y.coin(front, front < 10 ? 16 : 17, 1);
